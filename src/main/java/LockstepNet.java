@@ -466,8 +466,9 @@ public final class LockstepNet {
             return (op[i] == SKIP || op[i] == EACH) && (a[i] < 1 || a[i] > end - 1 - i);
         }
 
+        /** A wrong EACH has words too, and they may go on where the program has ended. */
         private boolean skipsIntoEach(int i) {
-            if (a[i] < 1 || a[i] > size - 2 - i) {
+            if (reachesTooFar(i, size)) {
                 return false;
             }
             int next = i + 1 + a[i];

@@ -148,7 +148,7 @@ final class Model {
         }
         if (w.op == 14 && !within) {
             int next = i + w.a + 1;
-            for (int j = i + 1; j < next && next < words.size(); j++) {
+            for (int j = i + 1; j < next; j++) {
                 if (words.get(j).op == 15 && (long) j + words.get(j).a >= next) {
                     return true;
                 }

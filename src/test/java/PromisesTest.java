@@ -19,6 +19,7 @@ public final class PromisesTest {
         promise7CheckParts();
         promise7CheckEach();
         promise7CheckSkip();
+        promise7CheckSkipAndWrongEach();
         promise8Input();
         promise9LockstepWords();
         promise9LockstepEach();
@@ -319,7 +320,28 @@ public final class PromisesTest {
         checkIs(2, "(15 0 2) (16 0) (14 0 1) (0 0)");
         checkIs(-1, "(15 0 1) (16 0) (14 0 1) (0 0)");
         checkIs(-1, "(14 0 1) (14 0 1) (0 0)");
+    }
+
+    /** An EACH that is wrong has words too, also where the program has ended. */
+    private static void promise7CheckSkipAndWrongEach() {
+        checkIs(0, "(14 0 1) (15 0 1)");
+        checkIs(0, "(14 0 1) (15 0 2147483647)");
         checkIs(0, "(14 0 1) (15 0 2147483647) (0 0)");
+        checkIs(0, "(14 0 2) (0 0) (15 0 1)");
+        checkIs(0, "(14 0 2) (15 0 2) (0 0)");
+        checkIs(1, "(0 0) (14 0 1) (15 0 3)");
+        checkIs(2, "(15 0 1) (16 0) (14 0 1) (15 0 1)");
+        checkIs(0, "(14 0 1) (15 8 1)");
+        checkIs(0, "(14 0 1) (15 8 1) (0 0)");
+        checkIs(1, "(14 0 2) (15 8 1) (0 0)");
+        checkIs(0, "(14 0 3) (15 0 2) (15 0 2) (0 0) (0 0)");
+        checkIs(0, "(14 0 3) (15 0 2) (15 0 2) (0 0)");
+        checkIs(2, "(14 0 3) (15 0 2) (15 0 1) (0 0)");
+        checkIs(1, "(14 0 1) (15 0 0)");
+        checkIs(1, "(14 0 1) (15 0 -1)");
+        checkIs(1, "(14 0 1) (15 0 -2147483648)");
+        checkIs(2, "(15 0 2) (14 0 1) (15 0 1)");
+        checkIs(62, "(0 0) ".repeat(62) + "(14 0 1) (15 0 1)");
     }
 
     private static void promise8Input() {
