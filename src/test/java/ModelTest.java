@@ -4,6 +4,17 @@ import java.util.Random;
 
 /** Runs of calls drawn by chance (always the same ones), on LockstepNet and on the model at once. */
 public final class ModelTest {
+    private static final String[] TAKING_NUMBERS = {
+        "net 1", "link 2", "word 5", "builtin 1", "cutAt 1", "input 3", "lockstep 1", "plain 2",
+        "prepare 2", "stopAt 1", "letter 2", "deliver 1", "deliverAll 3", "switchTo 1", "roundOf 1",
+        "value 2", "place 2", "chosen 2", "count 1",
+    };
+    private static final int[] EDGES = {
+        Integer.MIN_VALUE, Integer.MIN_VALUE + 1, -65536, -64, -1, 0, 0, 1, 1, 2, 2, 3, 5, 7, 8, 14, 15,
+        18, 21, 22, 23, 24, 25, 31, 32, 60, 63, 64, 65, 255, 300, 301, 500, 501, 2000, 2001, 1 << 24,
+        1 << 30, Integer.MAX_VALUE - 64, Integer.MAX_VALUE - 1, Integer.MAX_VALUE,
+    };
+
     private final Random random;
     private final LockstepNet real = new LockstepNet();
     private final Model model = new Model();
@@ -18,9 +29,10 @@ public final class ModelTest {
         int runs = args.length > 0 ? Integer.parseInt(args[0]) : 1200;
         for (int seed = 0; seed < runs && Checks.wrongSoFar() == 0; seed++) {
             ModelTest run = new ModelTest(seed);
-            switch (seed % 4) {
+            switch (seed % 5) {
                 case 0 -> run.anyCalls();
                 case 1 -> run.wordsAlone();
+                case 2 -> run.anyNumbers();
                 default -> run.wholeRun();
             }
             if (!run.same) {
@@ -48,12 +60,13 @@ public final class ModelTest {
 
     private int number() {
         int drawn = random.nextInt(10);
-        return drawn < 6 ? from(-2, 40) : drawn < 9 ? random.nextInt() : Integer.MIN_VALUE;
+        return drawn < 6 ? from(-2, 40) : drawn < 8 ? random.nextInt()
+                : drawn < 9 ? Integer.MAX_VALUE - from(0, 70) : Integer.MIN_VALUE;
     }
 
     private void anyWord(int i) {
         int op = from(0, 19) == 0 ? from(-1, 22) : from(0, 21);
-        int count = from(0, 30) == 0 ? number() : from(1, 4);
+        int count = from(0, 7) == 0 ? number() : from(1, 4);
         int a = op == 0 ? number() : op == 14 || op == 15 ? count : from(0, 7);
         int wild = from(0, 40);
         both("word", i, op, wild == 0 ? from(-1, 8) : from(0, 7), wild == 1 ? from(-1, 8) : a,
@@ -151,6 +164,28 @@ public final class ModelTest {
                     both("letters");
                     both("check");
                 }
+            }
+        }
+    }
+
+    /** Calls with numbers from end to end of int, without a net, with one, and with a run. */
+    private void anyNumbers() {
+        for (int stage = 0; stage < 6 && same; stage++) {
+            switch (stage) {
+                case 1 -> makeNet(from(1, 24));
+                case 2 -> both("builtin", from(0, 4));
+                case 3 -> both("prepare", from(0, 2), from(2, 8));
+                case 4 -> both("stopAt", from(1, 4));
+                case 5 -> both("deliverAll", 2, number(), from(0, 100));
+                default -> both("check");
+            }
+            for (int i = 0; i < 60 && same; i++) {
+                String[] call = TAKING_NUMBERS[random.nextInt(TAKING_NUMBERS.length)].split(" ");
+                int[] v = new int[Integer.parseInt(call[1])];
+                for (int j = 0; j < v.length; j++) {
+                    v[j] = EDGES[random.nextInt(EDGES.length)];
+                }
+                both(call[0], v);
             }
         }
     }
